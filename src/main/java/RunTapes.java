@@ -5,8 +5,8 @@
 public final class RunTapes {
     public static final int NONE = -1;
 
-    /** What calls answer beside NONE: it is so already, or it is not there yet; beyond the end of a run. */
-    private static final int ALREADY = -2;
+    /** What calls answer beside NONE: it is so already, or there is no such thing (yet); beyond the end of a RUN. */
+    private static final int UNMET = -2;
     private static final int BEYOND = -3;
 
     private static final int MOST_RECORDS = 300;
@@ -163,7 +163,7 @@ public final class RunTapes {
         }
         int before = now.settings[what];
         if (before == value) {
-            return ALREADY;
+            return UNMET;
         }
         remember();
         now.settings[what] = value;
@@ -179,7 +179,7 @@ public final class RunTapes {
 
     public int grow() {
         if (now.stage >= GROWN) {
-            return ALREADY;
+            return UNMET;
         }
         if (now.records.size == 0) {
             return NONE;
@@ -191,7 +191,7 @@ public final class RunTapes {
 
     public int spread() {
         if (now.stage >= SPREAD) {
-            return ALREADY;
+            return UNMET;
         }
         if (!canPlan()) {
             return NONE;
@@ -242,7 +242,7 @@ public final class RunTapes {
     /** 0 if a STEP can be taken, else what a call for one answers. */
     private int whyNoStep() {
         if (now.stage == MERGED) {
-            return ALREADY;
+            return UNMET;
         }
         return now.stage == SPREAD ? 0 : NONE;
     }
@@ -322,7 +322,7 @@ public final class RunTapes {
         if (k < 0 || k >= now.records.size) {
             return NONE;
         }
-        return now.stage == MERGED ? now.records.rising[k] : ALREADY;
+        return now.stage == MERGED ? now.records.rising[k] : UNMET;
     }
 
     // ---- on paper
@@ -577,7 +577,7 @@ public final class RunTapes {
             return NONE;
         }
         if (!kept[shelf]) {
-            return ALREADY;
+            return UNMET;
         }
         now.copyFrom(shelves[shelf]);
         acts = 0;
@@ -714,7 +714,7 @@ public final class RunTapes {
                     fetched++;
                 }
             }
-            return k == NONE ? fetched : ALREADY;
+            return k == NONE ? fetched : UNMET;
         }
 
         /** One more RECORD of a TAPE is written: whether its next BLOCK is fetched then. */
@@ -783,7 +783,7 @@ public final class RunTapes {
                     return i;
                 }
             }
-            return ALREADY;
+            return UNMET;
         }
 
         private int lastOf(int key) {
@@ -792,7 +792,7 @@ public final class RunTapes {
                     return i;
                 }
             }
-            return ALREADY;
+            return UNMET;
         }
 
         /** Like KEYS stand side by side in rising order. */
