@@ -1116,6 +1116,7 @@ public final class RunTapes {
             if (way == BALANCED) {
                 dealByTurns();
             } else {
+                places.climbFor(loaded, way, tapes - 1);
                 dealByNumbers(front);
             }
             lowGives = true;
@@ -1133,7 +1134,6 @@ public final class RunTapes {
         }
 
         private void dealByNumbers(boolean front) {
-            places.climbFor(loaded, way, tapes - 1);
             left = places.together();
             tally[LEVEL] = places.level;
             tally[BLANKS] = left - loaded;
