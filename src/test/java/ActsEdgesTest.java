@@ -206,6 +206,64 @@ public final class ActsEdgesTest {
         Due.due("RECORDS", x.count(0), 0);
     }
 
+    /** KEPT on SHELF 0, and nothing can be UNDONE. */
+    private static RunTapes keptBehindSteps(int kind, int steps) {
+        RunTapes x = new RunTapes();
+        if (kind == 12) {
+            x = Make.twos(150, 3, 0);
+        } else {
+            x.settle(0, 2);
+            x.settle(2, kind % 3);
+            x.settle(4, kind / 3 % 2);
+            x.settle(5, kind / 6);
+            x.drawn(60, 256);
+        }
+        x.grow();
+        x.spread();
+        for (int i = 0; i < steps; i++) {
+            x.step();
+        }
+        x.keep(0);
+        x.back(0);
+        return x;
+    }
+
+    /** Six ACTS that make all otherwise. */
+    private static RunTapes movedOn(RunTapes x) {
+        x.settle(1, x.count(3) == 6 ? 4 : 6);
+        x.settle(2, x.count(4) == 0 ? 1 : 0);
+        x.settle(5, 1 - x.count(15));
+        x.settle(4, 1 - x.count(6));
+        x.grow();
+        x.spread();
+        return x;
+    }
+
+    private static RunTapes undoneSix(RunTapes x) {
+        for (int i = 0; i < 6; i++) {
+            x.undo();
+        }
+        return x;
+    }
+
+    private static void undoInTheMidst() {
+        Due.sentence(0, "all is as ahead of it (x, too)");
+        int[] steps = {0, 1, 3, 7, 12};
+        for (int i = 0; i <= 12; i++) {
+            int kind = i;
+            for (int j : steps) {
+                int behind = kind == 12 ? 11 * j : j;
+                Supplier<RunTapes> plain = () -> keptBehindSteps(kind, behind);
+                Twins.same("UNDONE, " + kind + " behind " + behind, () -> undoneSix(movedOn(plain.get())), plain);
+                Twins.same("back, " + kind + " behind " + behind, () -> {
+                    RunTapes x = movedOn(plain.get());
+                    x.back(0);
+                    return x;
+                }, plain);
+            }
+        }
+    }
+
     // ---- promises 32 and 33
 
     private static void keepOnBothShelves() {
@@ -408,6 +466,7 @@ public final class ActsEdgesTest {
         undoAndActAgain();
         undoOfNone();
         undoOfX();
+        undoInTheMidst();
         keepOnBothShelves();
         backInEveryStage();
         backOfNothing();

@@ -444,6 +444,40 @@ public final class MergingEdgesTest {
         Due.due("the last of all", most.sorted(299), 1);
     }
 
+    private static void mergedRunsHaveAll() {
+        Due.sentence(0, "they are MERGED to one, which is written on TO");
+        for (int way = 0; way <= 2; way++) {
+            for (int runs = 2; runs <= 14; runs++) {
+                RunTapes x = Make.spreadTwos(runs, 4, way);
+                x.all();
+                int[] rising = new int[2 * runs];
+                for (int i = 0; i < runs; i++) {
+                    rising[i] = 2 * (runs - 1 - i);
+                    rising[runs + i] = rising[i] + 1;
+                }
+                Due.dueAll("sorted", Make.sorted(x), rising);
+                for (int t = 0; t < 4; t++) {
+                    if (x.tape(t, 0) == 1) {
+                        Due.dueAll("the last RUN", Make.on(x, t, 0), rising);
+                    }
+                }
+            }
+        }
+    }
+
+    private static void spreadAgain() {
+        Due.sentence(10, "SPREAD: how many DUMMIES");
+        RunTapes x = Make.spreadTwos(4, 4, 0);
+        x.all();
+        x.settle(3, 1);
+        x.grow();
+        Due.due("spread() again", x.spread(), 1);
+        Due.dueAll("TAPE 0", Make.on(x, 0), -3, 2);
+        Due.dueAll("TAPE 1", Make.on(x, 1), 0, 4);
+        Due.dueAll("TAPE 2", Make.on(x, 2), 6);
+        Due.dueAll("RUN 0", Make.on(x, 1, 0), 0, 1);
+    }
+
     private static void polyphaseTo() {
         Due.sentence(0, "is one of them empty behind it, the PHASE is over: that (the least numbered) is TO");
         RunTapes x = Make.spreadTwos(17, 4, 0);
@@ -577,6 +611,20 @@ public final class MergingEdgesTest {
         Due.due("TURNED", three.count(11), 0);
         three.step();
         Due.due("TURNED", three.count(11), 4 + 6);
+        RunTapes turns = Make.tell(Make.with(2, 6, 1), 10, 20, 5, 15, 14, 16, 7, 3, 9, 8);
+        turns.settle(5, 1);
+        turns.settle(4, 1);
+        turns.grow();
+        turns.spread();
+        // TAPE 0: RUN 3 (DOWN) leads, RUN 2 is TURNED: UP; RUN 0 alone: DOWN; that is TURNED, all falls, on TAPE 0
+        turns.step();
+        Due.due("TURNED", turns.count(11), 2);
+        turns.step();
+        Due.due("TURNED", turns.count(11), 2);
+        turns.step();
+        Due.due("TURNED", turns.count(11), 2 + 2 + 10);
+        Due.due("on TAPE 0 it stands UP", turns.on(0, 0, -2), 0);
+        Due.dueAll("rising", Make.on(turns, 0, 0), 7, 2, 6, 9, 8, 0, 4, 3, 5, 1);
     }
 
     // ---- promise 14
@@ -812,6 +860,8 @@ public final class MergingEdgesTest {
         aStepMoves();
         phaseGoesToItsEnd();
         allGoesToTheEnd();
+        mergedRunsHaveAll();
+        spreadAgain();
         polyphaseTo();
         cascadeTo();
         balancedTo();

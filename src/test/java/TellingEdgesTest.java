@@ -436,6 +436,9 @@ public final class TellingEdgesTest {
         Due.due("key(7, 0)", x.key(7, 0), 1);
         Due.due("key(7, 1)", x.key(7, 1), 2);
         Due.due("key(7, 2)", x.key(7, 2), 2);
+        RunTapes first = Make.tell(new RunTapes(), 42, 41);
+        Due.due("the first RECORD is the last of its KEY", first.key(42, 2), 0);
+        Due.due("the last RECORD is the first of its KEY", first.key(41, 1), 1);
         int[] none = {1, 6, 8, 10, 254};
         for (int key : none) {
             Due.due("key(" + key + ", 0)", x.key(key, 0), 0);
@@ -517,6 +520,15 @@ public final class TellingEdgesTest {
         x.clear();
         Due.due("CLEARED", x.keys(1), -1);
         Due.due("CLEARED", x.keys(2), 0);
+        Make.tell(x, 3, 9, 9, 3);
+        Due.due("3 came first", x.keys(1), 3);
+        Due.due("how often", x.keys(2), 2);
+        x.clear();
+        Make.tell(x, 9, 3, 3, 9);
+        Due.due("9 came first", x.keys(1), 9);
+        x.clear();
+        Make.tell(x, 5, 0, 4, 255);
+        Due.due("of four that come once", x.keys(1), 5);
     }
 
     private static void keysOfOthers() {
