@@ -1,5 +1,8 @@
+import static java.util.Map.entry;
+
 import java.lang.management.ManagementFactory;
 import java.lang.reflect.Array;
+import java.lang.reflect.Constructor;
 import java.lang.reflect.Field;
 import java.lang.reflect.Method;
 import java.lang.reflect.Modifier;
@@ -10,17 +13,21 @@ import java.util.Deque;
 import java.util.IdentityHashMap;
 import java.util.List;
 import java.util.Map;
-import java.util.Set;
-import java.util.TreeSet;
+import java.util.TreeMap;
 import java.util.regex.Matcher;
 import java.util.regex.Pattern;
 
 /** What can be checked of the language's rules: the face, words that are ruled out, short methods, and the room. */
 public final class LanguageTest {
     private static final String SOURCE = "src/main/java/RunTapes.java";
-    private static final Set<String> FACE = Set.of("feed", "end", "tell", "drawn", "draws", "clear", "settle", "grow",
-        "spread", "step", "phase", "all", "record", "run", "tape", "on", "sorted", "perfect", "plan", "planned", "least",
-        "depth", "units", "stands", "key", "keys", "about", "forecast", "needs", "undo", "keep", "back", "count");
+    private static final String DOCUMENT = "../shared/DOC.md";
+    /** Each method of the face, and how many numbers it takes. */
+    private static final Map<String, Integer> FACE = Map.ofEntries(entry("feed", 5), entry("end", 1), entry("tell", 0),
+        entry("drawn", 2), entry("draws", 1), entry("clear", 0), entry("settle", 2), entry("grow", 0), entry("spread", 0),
+        entry("step", 0), entry("phase", 0), entry("all", 0), entry("record", 2), entry("run", 2), entry("tape", 2),
+        entry("on", 3), entry("sorted", 1), entry("perfect", 2), entry("plan", 1), entry("planned", 3), entry("least", 1),
+        entry("depth", 1), entry("units", 1), entry("stands", 0), entry("key", 2), entry("keys", 1), entry("about", 1),
+        entry("forecast", 2), entry("needs", 1), entry("undo", 0), entry("keep", 1), entry("back", 1), entry("count", 1));
     private static int wrong;
 
     private static void fail(String what) {
@@ -29,23 +36,29 @@ public final class LanguageTest {
     }
 
     private static void face() {
-        Set<String> found = new TreeSet<>();
+        Map<String, Integer> found = new TreeMap<>();
         for (Method m : RunTapes.class.getDeclaredMethods()) {
             if (Modifier.isPublic(m.getModifiers())) {
-                found.add(m.getName());
-            } else if (!Modifier.isPrivate(m.getModifiers())) {
-                fail("neither public nor private: " + m);
+                found.merge(m.getName(), m.getParameterCount(), (one, other) -> -1);
+                numbersAlone(m);
+            } else if (!Modifier.isPrivate(m.getModifiers()) || FACE.containsKey(m.getName())) {
+                fail("neither public nor private, or a private one of a public name: " + m);
             }
         }
-        if (!found.equals(new TreeSet<>(FACE))) {
+        if (!found.equals(FACE)) {
             fail("the face is " + found);
         }
+        int flags = RunTapes.class.getModifiers();
+        if (!Modifier.isPublic(flags) || !Modifier.isFinal(flags)) {
+            fail("the class is not public and final");
+        }
+        constructorAndConstants();
         for (Class<?> inside : RunTapes.class.getDeclaredClasses()) {
             if (!Modifier.isStatic(inside.getModifiers()) || Modifier.isPublic(inside.getModifiers())) {
                 fail("not static, or public: " + inside);
             }
             for (Method m : inside.getDeclaredMethods()) {
-                if (FACE.contains(m.getName())) {
+                if (FACE.containsKey(m.getName())) {
                     fail("bears a public method's name: " + m);
                 }
             }
@@ -54,6 +67,48 @@ public final class LanguageTest {
         fewFields(RunTapes.class);
         if (RunTapes.class.getDeclaredClasses().length > 12) {
             fail("more than twelve classes");
+        }
+    }
+
+    private static void numbersAlone(Method m) {
+        boolean numbers = m.getReturnType() == int.class && !Modifier.isStatic(m.getModifiers());
+        for (Class<?> one : m.getParameterTypes()) {
+            numbers &= one == int.class;
+        }
+        if (!numbers || m.getExceptionTypes().length > 0) {
+            fail("not of numbers alone: " + m);
+        }
+    }
+
+    private static void constructorAndConstants() {
+        Constructor<?>[] made = RunTapes.class.getDeclaredConstructors();
+        if (made.length != 1 || !Modifier.isPublic(made[0].getModifiers()) || made[0].getParameterCount() != 0) {
+            fail("not one public constructor without parameters");
+        }
+        for (Field f : RunTapes.class.getDeclaredFields()) {
+            boolean ofTheFace = f.getName().equals("NONE");
+            if (ofTheFace ? !Modifier.isPublic(f.getModifiers()) : !Modifier.isPrivate(f.getModifiers())) {
+                fail("a field that is seen otherwise than the document tells: " + f);
+            }
+        }
+        if (RunTapes.NONE != -1) {
+            fail("NONE is " + RunTapes.NONE);
+        }
+    }
+
+    /** The face above is the one that the document shows. */
+    private static void faceOfTheDocument() throws Exception {
+        if (!Files.exists(Path.of(DOCUMENT))) {
+            System.out.println("the document is not here: the face is not compared with it");
+            return;
+        }
+        Map<String, Integer> shown = new TreeMap<>();
+        Matcher m = Pattern.compile("(?m)^    public int (\\w+)\\(([^)]*)\\);").matcher(Files.readString(Path.of(DOCUMENT)));
+        while (m.find()) {
+            shown.put(m.group(1), m.group(2).isEmpty() ? 0 : m.group(2).split(",").length);
+        }
+        if (!shown.equals(FACE)) {
+            fail("the document's face is " + shown);
         }
     }
 
@@ -193,6 +248,7 @@ public final class LanguageTest {
 
     public static void main(String[] args) throws Exception {
         face();
+        faceOfTheDocument();
         words();
         room();
         System.out.println(wrong == 0 ? "the language is kept to" : wrong + " rules are broken");

@@ -9,8 +9,9 @@ import java.util.regex.Pattern;
 import java.util.stream.Stream;
 
 /**
- * The sentences that tests name by Due.sentence stand in the document as they are named, and no place of a promise
- * that tells of a refused call, of a number that is not there or of a range is without a test that names it.
+ * The sentences that tests name by Due.sentence stand in the document as they are named; no place of a promise that
+ * tells of a refused call, of a number that is not there or of a range, and no more than a few words on end of the
+ * Terms and the promises, are without a test that names them.
  */
 public final class SentencesTest {
     private static final Path DOCUMENT = Path.of("../shared/DOC.md");
@@ -18,6 +19,8 @@ public final class SentencesTest {
     private static final Pattern NAMED = Pattern.compile("Due\\.sentence\\((\\d+), \"((?:[^\"\\\\]|\\\\.)*)\"\\)");
     private static final Pattern BOUNDARY = Pattern.compile("NONE|-2|-3|nothing happens|none comes|more than|below|\\d+ to \\d+|0 if not|0 ahead");
     private static final int PROMISES = 34;
+    /** Words such as "SETTINGS:", "By BALANCED:" lead to what is named; a clause has more of them. */
+    private static final int FEW_WORDS = 3;
     private static int wrong;
 
     private static void fail(String what) {
@@ -62,7 +65,7 @@ public final class SentencesTest {
         }
     }
 
-    private static void covered(int promise, String words, List<String> sentences) {
+    private static boolean[] places(String words, List<String> sentences) {
         boolean[] has = new boolean[words.length()];
         for (String sentence : sentences) {
             for (int at = words.indexOf(sentence); at >= 0; at = words.indexOf(sentence, at + 1)) {
@@ -71,6 +74,35 @@ public final class SentencesTest {
                 }
             }
         }
+        return has;
+    }
+
+    private static void noClauseLeft(String where, String words, List<String> sentences) {
+        boolean[] has = places(words, sentences);
+        for (int begin = 0, i = 0; i <= words.length(); i++) {
+            if (i == words.length() || has[i]) {
+                String left = words.substring(begin, i);
+                if (Pattern.compile("[A-Za-z0-9]+").matcher(left).results().count() > FEW_WORDS) {
+                    fail(where + ": no test names: " + left);
+                }
+                begin = i + 1;
+            }
+        }
+    }
+
+    private static String terms(String all) {
+        int begin = all.indexOf("## Terms");
+        int end = all.indexOf("## Promise 1:");
+        if (begin < 0 || end < begin) {
+            fail("the Terms were not found in the document");
+            return "";
+        }
+        // Signs that only set the parts off are no words of it.
+        return all.substring(begin, end).replaceAll("```(text)?|==== I+\\.", "");
+    }
+
+    private static void covered(int promise, String words, List<String> sentences) {
+        boolean[] has = places(words, sentences);
         Matcher edge = BOUNDARY.matcher(words);
         while (edge.find()) {
             if (!has[edge.start()]) {
@@ -97,8 +129,10 @@ public final class SentencesTest {
                 fail("no test names a sentence of promise " + promise);
             }
             covered(promise, words.get(promise), sentences);
+            noClauseLeft("promise " + promise, words.get(promise), sentences);
         }
-        System.out.println(wrong == 0 ? "each sentence with a boundary is named by a test" : wrong + " sentences are wanting");
+        noClauseLeft("Terms", terms(words.get(0)), named.getOrDefault(0, List.of()));
+        System.out.println(wrong == 0 ? "each clause of the Terms and the promises is named by a test" : wrong + " sentences are wanting");
         if (wrong != 0) {
             System.exit(1);
         }
